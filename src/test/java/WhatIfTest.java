@@ -1,0 +1,318 @@
+/** Promises 14 to 19: inside, countsIn, countsAlone, bestUpper, bestTurn, goneIn. */
+public final class WhatIfTest {
+    private static final Due due = new Due();
+
+    public static void main(String[] args) {
+        inside();
+        countsInArguments();
+        countsIn();
+        countsAlone();
+        bestUpperArguments();
+        bestUpperMissed();
+        bestUpperFalse();
+        bestUpperOfSeveral();
+        bestUpperKeepsTurns();
+        bestTurn();
+        bestTurnAmounts();
+        goneIn();
+        goneInBehindAnother();
+        nothingChanges();
+        due.end();
+    }
+
+    private static void inside() {
+        LoopListeners x = new LoopListeners();
+        due.is("no loops", x.inside(0, 0), LoopListeners.NO_SUCH);
+        x.loop(0, 3, 1, 10, 5);
+        x.loop(0, 20, 1, 10, 5);
+        due.is("loop -1", x.inside(-1, 0), LoopListeners.NO_SUCH);
+        due.is("loop 2", x.inside(2, 0), LoopListeners.NO_SUCH);
+        due.is("other -1", x.inside(0, -1), LoopListeners.NO_SUCH);
+        due.is("other 2", x.inside(0, 2), LoopListeners.NO_SUCH);
+        due.is("other 6", x.inside(0, 6), LoopListeners.NO_SUCH);
+        due.is("none", x.inside(0, 1), 1000);
+        x.come(0, 4, 1, 9);
+        x.ticks(10);
+        due.is("one", x.inside(0, 1), 1001);
+        due.is("the other way round", x.inside(1, 0), 999);
+        due.is("itself", x.inside(0, 0), 1000);
+        x.come(0, 4, 1, 9);
+        x.ticks(6);
+        due.is("two", x.inside(0, 1), 1002);
+        x.ticks(6);
+        due.is("the first is through", x.inside(0, 1), 1001);
+        x.ticks(20);
+        due.is("none again", x.inside(0, 1), 1000);
+    }
+
+    private static void countsInArguments() {
+        LoopListeners x = new LoopListeners();
+        due.is("countsIn, no loop, bad ticks", x.countsIn(0, 0), LoopListeners.NO_SUCH);
+        due.is("countsAlone, no loop, bad ticks", x.countsAlone(0, 0), LoopListeners.NO_SUCH);
+        x.loop(0, 3, 1, 10, 5);
+        int[] noLoops = {-1, 1, 6, Integer.MAX_VALUE, Integer.MIN_VALUE};
+        for (int loop : noLoops) {
+            due.is("countsIn of loop " + loop, x.countsIn(loop, 1), LoopListeners.NO_SUCH);
+            due.is("countsAlone of loop " + loop, x.countsAlone(loop, 1), LoopListeners.NO_SUCH);
+        }
+        int[] noTicks = {-1, 0, 101, Integer.MAX_VALUE, Integer.MIN_VALUE};
+        for (int ticks : noTicks) {
+            due.is("countsIn after " + ticks, x.countsIn(0, ticks), LoopListeners.BAD_VALUE);
+            due.is("countsAlone after " + ticks, x.countsAlone(0, ticks), LoopListeners.BAD_VALUE);
+        }
+    }
+
+    private static void countsIn() {
+        LoopListeners x = new LoopListeners();
+        x.loop(0, 10, 1, 10, 5);
+        x.loop(1, 0, 1, 200, 200);
+        x.come(0, 1, 1, 5);
+        due.is("at 9 as yet", x.countsIn(0, 9), 0);
+        due.is("at 10, but the other one listens", x.countsIn(0, 10), 0);
+        due.is("alone, at 9", x.countsAlone(0, 9), 0);
+        due.is("alone, at 10", x.countsAlone(0, 10), 1);
+        due.is("missed for good", x.countsIn(0, 100), 0);
+        x.ticks(1);
+        x.come(0, 1, 1, 5);
+        due.is("the next car is heard", x.countsIn(0, 10), 1);
+        due.is("a tick before it is not", x.countsIn(0, 9), 0);
+        due.is("alone, both are heard as one, as none is between them", x.countsAlone(0, 100), 1);
+        x.ticks(30);
+        due.is("it was so", x.ofLoop(0, 6), 1);
+        due.is("what it counted stays counted", x.countsIn(0, 1), 1);
+        due.is("alone too", x.countsAlone(0, 100), 1);
+    }
+
+    private static void countsAlone() {
+        LoopListeners x = new LoopListeners();
+        x.loop(0, 2, 1, 10, 5);
+        x.loop(0, 4, 1, 10, 5);
+        x.set(LoopListeners.TURN, 5);
+        x.come(0, 1, 1, 9);
+        x.ticks(2);
+        due.is("on by then", x.ofLoop(0, 5), 1);
+        x.come(0, 1, 1, 9);
+        x.ticks(1);
+        due.is("off between them", x.ofLoop(0, 5), 0);
+        due.is("the second car is counted", x.countsAlone(0, 1), 2);
+        due.is("also by turns", x.countsIn(0, 1), 2);
+        due.is("the second loop alone hears the first car", x.countsAlone(1, 1), 1);
+        due.is("by turns not", x.countsIn(1, 1), 0);
+        due.is("alone, both", x.countsAlone(1, 10), 2);
+        due.is("by turns, the second one", x.countsIn(1, 10), 1);
+        due.is("the other one counts no more while one is alone", x.ofLoop(0, 6), 1);
+    }
+
+    private static void bestUpperArguments() {
+        LoopListeners x = new LoopListeners();
+        due.is("no loop, bad ticks", x.bestUpper(0, 0), LoopListeners.NO_SUCH);
+        x.loop(0, 3, 1, 200, 150);
+        due.is("loop -1", x.bestUpper(-1, 1), LoopListeners.NO_SUCH);
+        due.is("loop 1", x.bestUpper(1, 1), LoopListeners.NO_SUCH);
+        due.is("loop 6", x.bestUpper(6, 1), LoopListeners.NO_SUCH);
+        due.is("ticks 0", x.bestUpper(0, 0), LoopListeners.BAD_VALUE);
+        due.is("ticks 101", x.bestUpper(0, 101), LoopListeners.BAD_VALUE);
+        due.is("ticks 1", x.bestUpper(0, 1), 150);
+        due.is("ticks 100", x.bestUpper(0, 100), 150);
+        x.bounds(0, 200, 200);
+        due.is("200 alone", x.bestUpper(0, 100), 200);
+        x.bounds(0, 1, 1);
+        due.is("the lower bound", x.bestUpper(0, 100), 1);
+    }
+
+    private static void bestUpperMissed() {
+        LoopListeners x = new LoopListeners();
+        x.loop(0, 3, 1, 100, 10);
+        x.come(0, 1, 1, 5);
+        due.is("it would be missed", x.countsIn(0, 10), 0);
+        due.is("any up to 20 would do: the least", x.bestUpper(0, 10), 10);
+        x.bounds(0, 100, 20);
+        due.is("just 20 would do", x.bestUpper(0, 10), 20);
+        x.bounds(0, 100, 21);
+        due.is("none would do: the least", x.bestUpper(0, 10), 21);
+    }
+
+    private static void bestUpperFalse() {
+        LoopListeners x = new LoopListeners();
+        x.set(LoopListeners.ACROSS, 4);
+        x.loop(0, 3, 1, 1, 1);
+        x.come(1, 1, 1, 9);
+        due.is("it would be counted falsely", x.countsIn(0, 10), 1);
+        due.is("36 is the strength by the metal beside", x.bestUpper(0, 10), 37);
+        due.is("two ticks ahead of it, 1 would do", x.bestUpper(0, 2), 1);
+        x.set(LoopListeners.ACROSS, 8);
+        x.speed(0, 3);
+        due.is("72 by a greater setting", x.bestUpper(0, 1), 73);
+        x.ticks(1);
+        due.is("the error is there, no bound mends it", x.bestUpper(0, 50), 1);
+    }
+
+    private static void bestUpperOfSeveral() {
+        LoopListeners x = new LoopListeners();
+        x.loop(0, 6, 1, 4, 4);
+        x.come(0, 1, 2, 4);
+        x.come(1, 1, 2, 5);
+        x.ticks(1);
+        x.come(0, 1, 1, 2);
+        x.speed(1, 1);
+        // strengths: front 0 passes at 6 with 4 * 4, front 1 beside at 6 with 5, front 2 at 6 with 4 * 2
+        due.is("beside and over: both passings, and not the one beside", x.bestUpper(0, 10), 6);
+        x.bounds(0, 4, 1);
+        due.is("a lower one", x.bestUpper(0, 10), 6);
+    }
+
+    private static void bestUpperKeepsTurns() {
+        LoopListeners x = new LoopListeners();
+        x.loop(0, 3, 2, 10, 1);
+        x.loop(1, 30, 1, 1, 1);
+        x.come(0, 1, 1, 9);
+        x.come(1, 1, 1, 3);
+        x.speed(1, 4);
+        x.ticks(2);
+        // loop 0 listens in the ticks 2, 4, 6: the car is at 3, 5, 7 behind them
+        due.is("counted by its turn", x.bestUpper(0, 2), 1);
+        x.ticks(1);
+        due.is("on, and counted", x.ofLoop(0, 6), 1);
+        due.is("bounds below its count do no harm", x.bestUpper(0, 3), 1);
+        LoopListeners y = new LoopListeners();
+        y.loop(0, 3, 1, 10, 1);
+        y.loop(1, 30, 1, 1, 1);
+        y.ticks(1);
+        y.come(0, 1, 1, 9);
+        due.is("missed by its turn with all bounds", y.bestUpper(0, 20), 1);
+        due.is("so it would count none", y.countsIn(0, 20), 0);
+        due.is("alone it would", y.countsAlone(0, 20), 1);
+    }
+
+    private static void bestTurn() {
+        LoopListeners x = new LoopListeners();
+        due.is("ticks 0", x.bestTurn(0), LoopListeners.BAD_VALUE);
+        due.is("ticks 101", x.bestTurn(101), LoopListeners.BAD_VALUE);
+        due.is("ticks -1", x.bestTurn(-1), LoopListeners.BAD_VALUE);
+        due.is("no loops: all are as good", x.bestTurn(100), 1);
+        x.set(LoopListeners.TURN, 4);
+        due.is("no loops: not the one that is set", x.bestTurn(1), 1);
+        x.set(LoopListeners.ACROSS, 0);
+        x.loop(0, 3, 1, 10, 5);
+        x.loop(1, 39, 1, 200, 200);
+        x.come(0, 1, 1, 9);
+        // at 3 behind the tick 2: the loop 0 listens in it with TURN 1, 3, 4 and 5, and not with 2
+        due.is("1 hears it", x.bestTurn(10), 1);
+        LoopListeners y = new LoopListeners();
+        y.ticks(1);
+        y.set(LoopListeners.ACROSS, 0);
+        y.loop(0, 3, 1, 10, 5);
+        y.loop(1, 39, 1, 200, 200);
+        y.come(0, 1, 1, 9);
+        // at 3 behind the tick 3: with TURN 1, 2 and 3 it is the turn of loop 1
+        due.is("4 hears it", y.bestTurn(10), 4);
+        due.is("just then", y.bestTurn(3), 4);
+        due.is("ahead of it all are as good", y.bestTurn(2), 1);
+        y.ticks(5);
+        due.is("missed: no turn mends it", y.bestTurn(10), 1);
+    }
+
+    private static void bestTurnAmounts() {
+        LoopListeners x = new LoopListeners();
+        x.set(LoopListeners.ACROSS, 1);
+        // loop 0 counts falsely what is beside, loop 1 misses what is too light: these must not make up for one another
+        x.loop(0, 3, 1, 1, 1);
+        x.loop(1, 3, 1, 200, 200);
+        x.come(1, 1, 1, 9);
+        // at 3 behind the tick 2: with TURN 1, 3, 4 and 5 loop 0 listens and counts falsely, with 2 it does not
+        due.is("amounts together", x.bestTurn(3), 2);
+        due.is("both as yet 0", x.bestTurn(2), 1);
+        due.is("all ticks", x.bestTurn(100), 2);
+    }
+
+    private static void goneIn() {
+        LoopListeners x = new LoopListeners();
+        due.is("no car", x.goneIn(0), LoopListeners.NO_SUCH);
+        x.come(0, 1, 4, 1);
+        x.come(1, 4, 1, 1);
+        due.is("car -1", x.goneIn(-1), LoopListeners.NO_SUCH);
+        due.is("car 2", x.goneIn(2), LoopListeners.NO_SUCH);
+        due.is("car 40", x.goneIn(40), LoopListeners.NO_SUCH);
+        due.is("40 cells by 4", x.goneIn(0), 10);
+        due.is("43 cells by 1", x.goneIn(1), 43);
+        x.speed(0, 0);
+        due.is("never", x.goneIn(0), LoopListeners.NONE);
+        x.speed(0, 1);
+        due.is("40 cells by 1", x.goneIn(0), 40);
+        x.want(0);
+        due.is("wants, but finds no room, and as much as before", x.goneIn(0), 40);
+        x.ticks(1);
+        x.ticks(38);
+        due.is("in the next tick", x.goneIn(0), 1);
+        x.ticks(1);
+        due.is("gone", x.goneIn(0), 0);
+        x.ticks(50);
+        due.is("gone for long", x.goneIn(0), 0);
+        x.come(0, 1, 4, 1);
+        x.want(2);
+        due.is("one tick more by changing its lane", x.goneIn(2), 11);
+        x.come(1, 1, 1, 1);
+        due.is("it changes a tick later, as there is no room at first", x.goneIn(2), 11);
+    }
+
+    private static void goneInBehindAnother() {
+        LoopListeners x = new LoopListeners();
+        x.come(0, 1, 1, 1);
+        x.speed(0, 0);
+        x.come(1, 1, 1, 1);
+        x.ticks(3);
+        x.want(1);
+        x.ticks(1);
+        due.is("car 1 is ahead of car 0", x.ofCar(1, 1), 3);
+        x.speed(0, 4);
+        x.speed(1, 0);
+        due.is("0 can't pass 1", x.goneIn(0), LoopListeners.NONE);
+        x.want(0);
+        due.is("but beside it", x.goneIn(0), 11);
+        x.undo();
+        x.speed(1, 1);
+        due.is("40 - 3 ticks for the one ahead", x.goneIn(1), 37);
+        due.is("the one behind it comes on by its whole speed when it is gone", x.goneIn(0), 37);
+        x.speed(0, 1);
+        due.is("from the cell 0 by 1", x.goneIn(0), 40);
+    }
+
+    private static void nothingChanges() {
+        LoopListeners x = new LoopListeners();
+        x.loop(0, 3, 3, 20, 5);
+        x.loop(1, 3, 3, 20, 5);
+        x.come(0, 2, 2, 7);
+        x.come(1, 2, 1, 4);
+        x.ticks(1);
+        x.come(0, 1, 4, 4);
+        x.want(2);
+        x.want(1);
+        String before = stateOf(x);
+        due.is("countsIn", x.countsIn(0, 100), 1);
+        x.countsAlone(1, 100);
+        x.bestUpper(0, 100);
+        x.bestTurn(100);
+        x.goneIn(2);
+        x.inside(0, 1);
+        due.is("the state is as it was", before.equals(stateOf(x)) ? 1 : 0, 1);
+        due.is("undo is as it was", x.undo(), 5);
+        due.is("the wish is taken back", x.ofCar(1, 6), 0);
+    }
+
+    private static String stateOf(LoopListeners x) {
+        StringBuilder state = new StringBuilder();
+        for (int what = 0; what < 12; what++) {
+            state.append(x.count(what)).append(' ');
+            for (int car = 0; car < x.count(2); car++) {
+                state.append(x.ofCar(car, what)).append(' ');
+            }
+            for (int loop = 0; loop < x.count(1); loop++) {
+                state.append(x.ofLoop(loop, what)).append(' ');
+            }
+        }
+        for (int cell = 0; cell < 80; cell++) {
+            state.append(x.carAt(cell / 40, cell % 40)).append(' ');
+        }
+        return state.toString();
+    }
+}
