@@ -15,6 +15,7 @@ public final class CarsTest {
         foremostFirst();
         lowerNumberFirst();
         orderAsAheadOfTheTick();
+        fortyOnTheRoad();
         leaving();
         passings();
         switching();
@@ -302,6 +303,33 @@ public final class CarsTest {
         x.ticks(1);
         due.is("0 moves ahead of 1", x.ofCar(0, 1), 5);
         due.is("1 behind it", x.ofCar(1, 1), 4);
+    }
+
+    private static void fortyOnTheRoad() {
+        LoopListeners x = new LoopListeners();
+        for (int car = 0; car < 38; car++) {
+            boolean first = car < 2;
+            due.is("car", x.come(car % 2, 1, first ? 3 : 4, 1), car);
+            x.ticks(first ? 13 : 10);
+            if (first) {
+                due.is("at the end of its lane", x.ofCar(car, 1), 39);
+                x.speed(car, 0);
+            }
+        }
+        due.is("the last one of a row", x.carAt(0, 21), 36);
+        x.come(0, 1, 1, 1);
+        x.speed(38, 0);
+        x.come(1, 1, 1, 1);
+        x.ticks(1);
+        x.want(39);
+        x.ticks(1);
+        due.is("on the road", x.count(3), 40);
+        due.is("39 is ahead of 38", x.carAt(0, 1), 39);
+        x.speed(38, 1);
+        x.ticks(1);
+        due.is("39 moves first", x.ofCar(39, 1), 2);
+        due.is("so that 38 comes on", x.ofCar(38, 1), 1);
+        due.is("and never waited", x.ofCar(38, 8), 0);
     }
 
     private static void leaving() {

@@ -136,6 +136,14 @@ public final class TextsTest {
         due.is("no cars", x.count(2), 0);
         due.is("no ticks", x.count(0), 0);
         due.is("the pad does not come back", x.count(8), 0);
+        x.come(1, 1, 2, 3);
+        x.ticks(5);
+        Texts.put(x, "t7;w0");
+        due.is("orders then", x.carryOut(), 2);
+        due.is("undone to what was just before", x.undo(), 2);
+        due.is("tick", x.count(0), 5);
+        due.is("front", x.ofCar(0, 1), 10);
+        due.is("wish", x.ofCar(0, 6), 0);
     }
 
     private static void carryOutUpToAnError() {

@@ -6,6 +6,7 @@ public final class UndoSavingTest {
         undoEachChange();
         undoSix();
         undoAndGoOn();
+        undoAndAnew();
         undoLeavesPadAndSlots();
         errorsRecordNothing();
         save();
@@ -96,6 +97,58 @@ public final class UndoSavingTest {
             due.is("tick", x.count(0), ticks[i]);
         }
         due.is("no more", x.undo(), LoopListeners.NOT_POSSIBLE);
+    }
+
+    private static void undoAndAnew() {
+        LoopListeners x = new LoopListeners();
+        x.save(0);
+        x.loop(1, 3, 2, 9, 3);
+        x.come(0, 3, 3, 5);
+        x.come(1, 1, 2, 7);
+        x.speed(1, 0);
+        x.ticks(1);
+        x.speed(0, 0);
+        x.speed(1, 4);
+        x.want(0);
+        x.ticks(1);
+        x.want(1);
+        x.ticks(1);
+        x.want(0);
+        x.save(1);
+        int[] ofCar0 = {1, 3, 3, 0, 5, 0, 1, 1, 0, 1};
+        int[] ofCar1 = {0, 0, 1, 4, 7, 0, 0, 1, 1, 0};
+        int[] ofLoop0 = {1, 3, 2, 9, 3, 1, 1, 1, 20, 3};
+        int[] counts = {3, 1, 2, 2, 0, 0, 1, 1};
+        numbers(x, counts, ofCar0, ofCar1, ofLoop0);
+        x.restore(0);
+        due.is("no cars", x.count(2), 0);
+        due.is("no loops", x.count(1), 0);
+        x.loop(0, 0, 1, 200, 200);
+        x.come(0, 1, 1, 1);
+        x.come(1, 1, 1, 1);
+        numbers(x, new int[] {0, 1, 2, 2, 0, 0, 0, 0}, new int[] {0, 0, 1, 1, 1, 0, 0, 0, 0, 1},
+            new int[] {1, 0, 1, 1, 1, 0, 0, 0, 0, 0}, new int[] {0, 0, 1, 200, 200, 0, 0, 0, 5, 0});
+        x.speed(0, 0);
+        x.ticks(1);
+        due.is("a passing of the car that came anew", x.ofLoop(0, 7), 1);
+        x.restore(1);
+        numbers(x, counts, ofCar0, ofCar1, ofLoop0);
+        x.undo();
+        x.restore(1);
+        x.ticks(100);
+        x.undo();
+        numbers(x, counts, ofCar0, ofCar1, ofLoop0);
+    }
+
+    private static void numbers(LoopListeners x, int[] counts, int[] ofCar0, int[] ofCar1, int[] ofLoop0) {
+        for (int what = 0; what < counts.length; what++) {
+            due.is("count(" + what + ")", x.count(what), counts[what]);
+        }
+        for (int what = 0; what < 10; what++) {
+            due.is("ofCar(0, " + what + ")", x.ofCar(0, what), ofCar0[what]);
+            due.is("ofCar(1, " + what + ")", x.ofCar(1, what), ofCar1[what]);
+            due.is("ofLoop(0, " + what + ")", x.ofLoop(0, what), ofLoop0[what]);
+        }
     }
 
     private static void undoLeavesPadAndSlots() {

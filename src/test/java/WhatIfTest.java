@@ -11,6 +11,7 @@ public final class WhatIfTest {
         bestUpperMissed();
         bestUpperFalse();
         bestUpperOfSeveral();
+        bestUpperOfTwoHundred();
         bestUpperKeepsTurns();
         bestTurn();
         bestTurnAmounts();
@@ -161,6 +162,28 @@ public final class WhatIfTest {
         due.is("a lower one", x.bestUpper(0, 10), 6);
     }
 
+    private static void bestUpperOfTwoHundred() {
+        LoopListeners x = new LoopListeners();
+        x.set(LoopListeners.ACROSS, 7);
+        x.come(0, 3, 2, 9);
+        x.come(1, 1, 2, 9);
+        x.ticks(1);
+        x.come(1, 1, 1, 4);
+        for (int car = 0; car < 3; car++) {
+            x.speed(car, 0);
+        }
+        x.loop(0, 0, 3, 1, 1);
+        due.is("4 * 27 and 7 * 13", x.ofLoop(0, 8), 199);
+        due.is("counted falsely, as it was laid under the car, but with 200", x.bestUpper(0, 1), 200);
+        x.bounds(0, 200, 200);
+        due.is("200 is the lower bound too", x.bestUpper(0, 1), 200);
+        x.bounds(0, 200, 199);
+        due.is("200 still", x.bestUpper(0, 100), 200);
+        x.set(LoopListeners.ACROSS, 8);
+        due.is("4 * 27 and 8 * 13", x.ofLoop(0, 8), 212);
+        due.is("no bound is great enough", x.bestUpper(0, 1), 199);
+    }
+
     private static void bestUpperKeepsTurns() {
         LoopListeners x = new LoopListeners();
         x.loop(0, 3, 2, 10, 1);
@@ -210,6 +233,11 @@ public final class WhatIfTest {
         due.is("ahead of it all are as good", y.bestTurn(2), 1);
         y.ticks(5);
         due.is("missed: no turn mends it", y.bestTurn(10), 1);
+        y.ticks(15);
+        due.is("tick", y.count(0), 21);
+        y.come(0, 1, 1, 9);
+        // at 3 behind the tick 23: the turn of loop 0 just with TURN 5
+        due.is("5 hears it", y.bestTurn(10), 5);
     }
 
     private static void bestTurnAmounts() {
