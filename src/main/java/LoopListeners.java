@@ -84,7 +84,7 @@ public final class LoopListeners {
         if (asked == null) {
             return NO_SUCH;
         }
-        return what == 9 ? now.loopsUnder(asked) : asked.number(what);
+        return what == 9 ? now.loopsUnder(asked) : asked.about(what);
     }
 
     public int ofLoop(int loop, int what) {
@@ -92,7 +92,7 @@ public final class LoopListeners {
         if (asked == null) {
             return NO_SUCH;
         }
-        return what == 8 ? now.strengthOf(asked) : asked.number(what);
+        return what == 8 ? now.strengthOf(asked) : asked.about(what);
     }
 
     public int error(int loop) {
@@ -317,15 +317,15 @@ public final class LoopListeners {
 
     /** A car; its cells below 0 and beyond 39 are counted in its length, but there are no such cells. */
     private static final class Car {
-        final int place;
+        final int number;
         int lane, front, length, speed, metal;
         boolean gone, wants;
         int changes, waits;
         /** The loops that it was over after the last tick, or when they were laid, as a set. */
         int wasOver;
 
-        Car(int place) {
-            this.place = place;
+        Car(int number) {
+            this.number = number;
         }
 
         void arrive(int itsLane, int itsLength, int itsSpeed, int itsMetal) {
@@ -358,7 +358,7 @@ public final class LoopListeners {
             return front - length + 1;
         }
 
-        int number(int what) {
+        int about(int what) {
             switch (what) {
                 case 0: return lane;
                 case 1: return front;
@@ -422,7 +422,7 @@ public final class LoopListeners {
             return counted - passings;
         }
 
-        int number(int what) {
+        int about(int what) {
             switch (what) {
                 case 0: return lane;
                 case 1: return first;
@@ -669,7 +669,7 @@ public final class LoopListeners {
             int moved = 0;
             while (moved < car.speed && !car.gone && takerOf(car.lane, car.front + 1) == NONE) {
                 car.front++;
-                take(car.lane, car.front, car.place);
+                take(car.lane, car.front, car.number);
                 take(car.lane, car.last() - 1, NONE);
                 car.gone = car.last() > LAST_CELL;
                 moved++;
@@ -691,7 +691,7 @@ public final class LoopListeners {
         private void changeLane(Car car) {
             for (int cell = car.last(); cell <= car.front; cell++) {
                 take(car.lane, cell, NONE);
-                take(1 - car.lane, cell, car.place);
+                take(1 - car.lane, cell, car.number);
             }
             car.lane = 1 - car.lane;
             car.wants = false;
@@ -775,7 +775,7 @@ public final class LoopListeners {
             int sum = 0;
             for (int i = 0; i < loopsLaid; i++) {
                 Loop loop = loopNumbered(i);
-                sum += loop == null ? 0 : loop.number(what);
+                sum += loop == null ? 0 : loop.about(what);
             }
             return sum;
         }
