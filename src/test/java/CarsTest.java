@@ -155,6 +155,17 @@ public final class CarsTest {
         y.ticks(1);
         due.is("it changed", y.ofCar(0, 0), 1);
         due.is("at the same front", y.ofCar(0, 1), 6);
+        LoopListeners z = new LoopListeners();
+        z.come(0, 4, 1, 1);
+        z.come(1, 1, 1, 1);
+        z.want(1);
+        z.ticks(3);
+        due.is("from the lane 1 there is no room either", z.ofCar(1, 0), 1);
+        due.is("so that it moves on beside", z.ofCar(1, 1), 3);
+        z.speed(0, 0);
+        z.ticks(2);
+        due.is("ahead of the other one there is room", z.ofCar(1, 0), 0);
+        due.is("one cell ahead", z.ofCar(1, 1), 4);
     }
 
     private static void wantAtTheEndsOfTheRoad() {

@@ -76,6 +76,11 @@ public final class TextsTest {
         x.put(Texts.number("t3"));
         due.is("nothing is left of what was", x.carryOut(), 1);
         due.is("three ticks", x.count(0), 3);
+        x.put(Texts.number("t12"));
+        x.wipe();
+        x.put(Texts.number("t1"));
+        due.is("also not behind a number", x.carryOut(), 1);
+        due.is("one tick", x.count(0), 4);
     }
 
     private static void fault(String text, int fault) {

@@ -57,6 +57,12 @@ public final class UndoSavingTest {
         due.is("a car comes anew", x.come(0, 2, 1, 1), 0);
         due.is("with a length of its own", x.ofCar(0, 2), 2);
         due.is("that has not changed its lane", x.ofCar(0, 7), 0);
+        x.ticks(100);
+        due.is("gone", x.ofCar(0, 5), 1);
+        x.undo();
+        x.undo();
+        x.come(0, 1, 1, 1);
+        due.is("another one with its number is not gone", x.ofCar(0, 5), 0);
     }
 
     private static void undoSix() {
@@ -77,6 +83,14 @@ public final class UndoSavingTest {
         }
         due.is("the oldest ones were dropped", x.undo(), LoopListeners.NOT_POSSIBLE);
         due.is("tick", x.count(0), 3);
+        for (int i = 0; i < 6; i++) {
+            x.ticks(1);
+        }
+        due.is("an error with a full history", x.ticks(0), LoopListeners.BAD_VALUE);
+        for (int i = 0; i < 6; i++) {
+            due.is("undo", x.undo(), 5 - i);
+        }
+        due.is("the oldest one is still there", x.count(0), 3);
     }
 
     private static void undoAndGoOn() {

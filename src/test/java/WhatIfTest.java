@@ -205,6 +205,17 @@ public final class WhatIfTest {
         due.is("missed by its turn with all bounds", y.bestUpper(0, 20), 1);
         due.is("so it would count none", y.countsIn(0, 20), 0);
         due.is("alone it would", y.countsAlone(0, 20), 1);
+        LoopListeners z = new LoopListeners();
+        z.set(LoopListeners.ACROSS, 4);
+        z.loop(0, 3, 1, 10, 1);
+        z.loop(1, 30, 1, 1, 1);
+        z.ticks(1);
+        z.come(1, 1, 1, 9);
+        due.is("what is beside in the turn of the other loop does no harm", z.bestUpper(0, 20), 1);
+        z.undo();
+        z.ticks(1);
+        z.come(1, 1, 1, 9);
+        due.is("what is beside in its own turn does", z.bestUpper(0, 20), 37);
     }
 
     private static void bestTurn() {
