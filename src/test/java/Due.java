@@ -11,6 +11,15 @@ final class Due {
         }
     }
 
+    /** Compares rows of answers. */
+    void is(String calls, String got, String due) {
+        compared++;
+        if (!got.equals(due)) {
+            wrong++;
+            System.out.println(calls + " answered " + got + ", due is " + due);
+        }
+    }
+
     /** Whether nothing was wrong as yet; a long comparison stops at the first wrong answer. */
     boolean allRight() {
         return wrong == 0;

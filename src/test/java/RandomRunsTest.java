@@ -1,10 +1,10 @@
 /**
  * Runs of calls in a made-up order, on the class and on the plain model side by side: each answer has to be the same,
- * and so has all that can be asked for, after every few calls. The numbers come from a fixed row, so that every run of
- * this test is the same.
+ * and so has all that can be asked for at the end. An object is used for no more than 512 calls: a run is made once for
+ * each part of what is asked at its end. The numbers come from a fixed row, so that every run of this test is the same.
  */
 public final class RandomRunsTest {
-    private static final int RUNS = 400, CALLS = 512, WHOLE_STATE_EVERY = 16;
+    private static final int RUNS = 600, MOST_CALLS = 512, MOST_CALLS_OF_A_STEP = 7, PARTS = 4, CALLS_OF_A_PART = 250;
     private static final int[] EDGES = {Integer.MIN_VALUE, -7, -1, 0, 1, 2, 5, 6, 9, 10, 12, 39, 40, 41, 100, 101, 200, 201, Integer.MAX_VALUE};
     private static final Due due = new Due();
 
@@ -12,10 +12,19 @@ public final class RandomRunsTest {
     private PlainModel plain = new PlainModel();
     private long seed;
     private String name;
+    private int calls;
 
     public static void main(String[] args) {
         for (int run = 0; run < RUNS && due.allRight(); run++) {
-            new RandomRunsTest().run(run);
+            if (run % 10 == 0) {
+                new RandomRunsTest().run(run, MOST_CALLS);
+                continue;
+            }
+            for (int part = 0; part < PARTS && due.allRight(); part++) {
+                RandomRunsTest test = new RandomRunsTest();
+                test.run(run, run * 37 % (MOST_CALLS - CALLS_OF_A_PART));
+                test.compare(part);
+            }
         }
         due.end();
     }
@@ -31,20 +40,18 @@ public final class RandomRunsTest {
         return kind == 0 ? EDGES[below(EDGES.length)] : kind == 1 ? least - 1 + below(most - least + 3) : least + below(most - least + 1);
     }
 
-    private void run(int run) {
+    private void run(int run, int most) {
         seed = run * 7919L + 13;
         // a run has its own liking: many cars or few, long waits or short ones
         int mostTicks = new int[] {2, 3, 5, 30, 100}[run % 5];
-        for (int call = 0; call < CALLS && due.allRight(); call++) {
-            name = "run " + run + ", call " + call + ": ";
+        while (calls + MOST_CALLS_OF_A_STEP <= most && due.allRight()) {
+            name = "run " + run + ", call " + calls + ": ";
             step(mostTicks);
-            if (call % WHOLE_STATE_EVERY == 0 || call == CALLS - 1) {
-                compareAll();
-            }
         }
     }
 
     private void is(String call, int got, int want) {
+        calls++;
         due.is(name + call, got, want);
     }
 
@@ -193,21 +200,46 @@ public final class RandomRunsTest {
         is("count " + what, real.count(what), plain.count(what));
     }
 
-    private void compareAll() {
+    private void compare(int part) {
+        switch (part) {
+            case 0: compareLoops(); break;
+            case 1: compareCars(0, 20); break;
+            case 2: compareCars(20, 40); break;
+            default: compareCells();
+        }
+        due.is(name + "calls are few enough", calls <= MOST_CALLS ? 1 : 0, 1);
+    }
+
+    private void compareLoops() {
         for (int what = -1; what <= 12; what++) {
             is("count " + what, real.count(what), plain.count(what));
-            for (int car = 0; car <= plain.count(2); car++) {
-                is("ofCar " + car + " " + what, real.ofCar(car, what), plain.ofCar(car, what));
-            }
             for (int loop = 0; loop <= plain.count(1); loop++) {
                 is("ofLoop " + loop + " " + what, real.ofLoop(loop, what), plain.ofLoop(loop, what));
             }
         }
+        is("fault", real.fault(), plain.fault());
+    }
+
+    private void compareCars(int from, int to) {
+        for (int car = from; car < to; car++) {
+            for (int what = 0; what <= 10; what++) {
+                is("ofCar " + car + " " + what, real.ofCar(car, what), plain.ofCar(car, what));
+            }
+            is("goneIn " + car, real.goneIn(car), plain.goneIn(car));
+        }
+    }
+
+    private void compareCells() {
         for (int lane = 0; lane < 2; lane++) {
             for (int cell = 0; cell < 40; cell++) {
                 is("carAt " + lane + " " + cell, real.carAt(lane, cell), plain.carAt(lane, cell));
             }
         }
-        is("fault", real.fault(), plain.fault());
+        for (int loop = 0; loop <= plain.count(1); loop++) {
+            is("countsIn " + loop, real.countsIn(loop, 60), plain.countsIn(loop, 60));
+            is("countsAlone " + loop, real.countsAlone(loop, 60), plain.countsAlone(loop, 60));
+            is("error " + loop, real.error(loop), plain.error(loop));
+            is("bestTurn", real.bestTurn(7 + loop), plain.bestTurn(7 + loop));
+        }
     }
 }

@@ -12,8 +12,11 @@ public final class WhatIfTest {
         bestUpperFalse();
         bestUpperOfSeveral();
         bestUpperOfTwoHundred();
+        bestUpperOfEachStrength();
+        bestUpperWhenOn();
         bestUpperKeepsTurns();
         bestTurn();
+        bestTurnOfEach();
         bestTurnAmounts();
         goneIn();
         goneInBehindAnother();
@@ -184,6 +187,61 @@ public final class WhatIfTest {
         due.is("no bound is great enough", x.bestUpper(0, 1), 199);
     }
 
+    /** "at most 200", "of several the least one": one above what is heard falsely, or the lower bound if that is too much. */
+    private static void bestUpperOfEachStrength() {
+        for (int across = 0; across <= 8; across++) {
+            for (int metal = 1; metal <= 9; metal++) {
+                LoopListeners x = new LoopListeners();
+                x.set(LoopListeners.ACROSS, across);
+                x.come(1, 3, 2, metal);
+                x.ticks(4);
+                x.speed(0, 0);
+                x.loop(0, 6, 3, 200, 1);
+                x.loop(0, 6, 3, 200, 50);
+                int strength = across * 3 * metal;
+                due.is("three cells beside of " + metal + " by " + across, x.ofLoop(0, 8), strength);
+                due.is("lower 1, strength " + strength, x.bestUpper(0, 1), strength < 200 ? strength + 1 : 1);
+                due.is("lower 50, strength " + strength, x.bestUpper(1, 2), strength < 200 ? Math.max(50, strength + 1) : 50);
+            }
+        }
+        LoopListeners y = new LoopListeners();
+        y.set(LoopListeners.ACROSS, 4);
+        y.come(0, 4, 4, 9);
+        y.come(1, 2, 4, 9);
+        y.ticks(1);
+        y.come(1, 1, 1, 5);
+        for (int car = 0; car < 3; car++) {
+            y.speed(car, 0);
+        }
+        y.loop(0, 2, 3, 7, 7);
+        due.is("three cells of 9, two beside of 9", y.ofLoop(0, 8), 4 * 27 + 4 * 18);
+        y.speed(2, 2);
+        y.ticks(1);
+        due.is("and one of 5", y.ofLoop(0, 8), 200);
+        y.undo();
+        due.is("with 200 it counts, too: of all the least one", y.bestUpper(0, 2), 7);
+        y.undo();
+        due.is("without the last one 181 would do", y.bestUpper(0, 2), 181);
+    }
+
+    /** A loop that is on, as a car stands on it, counts nothing with any bound. */
+    private static void bestUpperWhenOn() {
+        LoopListeners x = new LoopListeners();
+        x.loop(0, 2, 1, 10, 4);
+        x.come(0, 1, 2, 9);
+        x.ticks(1);
+        x.speed(0, 0);
+        due.is("on", x.ofLoop(0, 5), 1);
+        for (int ticks : new int[] {1, 2, 99, 100}) {
+            due.is("its lower bound after " + ticks, x.bestUpper(0, ticks), 4);
+            due.is("and again", x.bestUpper(0, ticks), 4);
+        }
+        x.bounds(0, 200, 36);
+        due.is("not less than the lower bound", x.bestUpper(0, 100), 36);
+        x.bounds(0, 200, 37);
+        due.is("less than it: off, and not on again", x.bestUpper(0, 100), 37);
+    }
+
     private static void bestUpperKeepsTurns() {
         LoopListeners x = new LoopListeners();
         x.loop(0, 3, 2, 10, 1);
@@ -249,6 +307,30 @@ public final class WhatIfTest {
         y.come(0, 1, 1, 9);
         // at 3 behind the tick 23: the turn of loop 0 just with TURN 5
         due.is("5 hears it", y.bestTurn(10), 5);
+    }
+
+    /**
+     * "1 to 5": each turn alone is the best one. A car is over loop 0 behind one tick alone, in which it is the turn of
+     * loop 0 with just one of the turns 1 to 6.
+     */
+    private static void bestTurnOfEach() {
+        int[][] tickOfTurn = {{1, 46}, {2, 45}, {3, 7}, {4, 35}, {5, 23}, {6, 15}};
+        for (int[] turn : tickOfTurn) {
+            for (int set = 1; set <= 5; set++) {
+                LoopListeners x = new LoopListeners();
+                x.ticks(turn[1] - 3);
+                x.set(LoopListeners.ACROSS, 0);
+                x.set(LoopListeners.TURN, set);
+                x.loop(0, 4, 1, 10, 5);
+                x.loop(1, 39, 1, 200, 200);
+                x.come(0, 1, 1, 9);
+                due.is("the best one is " + turn[0] + ", if it is none above 5", x.bestTurn(10), turn[0] <= 5 ? turn[0] : 1);
+                due.is("just then", x.bestTurn(4), turn[0] <= 5 ? turn[0] : 1);
+                due.is("ahead of it all are as good", x.bestTurn(3), 1);
+                due.is("with the one that is set", x.countsIn(0, 10), set == turn[0] ? 1 : 0);
+                due.is("it is still set", x.count(11), set);
+            }
+        }
     }
 
     private static void bestTurnAmounts() {
