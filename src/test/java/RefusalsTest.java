@@ -51,6 +51,8 @@ public final class RefusalsTest {
         due.is("full: no fault", full.fault(), LoopListeners.NONE);
         due.is("full: changes", full.count(9), 6);
         due.is("full: the cells 0 are taken", full.carAt(0, 0) * 100 + full.carAt(1, 0), 3839);
+        LoopListeners crowded = Roads.CROWDED.made();
+        due.is("crowded: cars", crowded.count(3), 40);
         due.is("faulty", Roads.FAULTY.made().fault(), 4);
     }
 

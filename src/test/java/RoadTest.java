@@ -18,8 +18,10 @@ public final class RoadTest {
         allCellsBesideFree();
         besideAtTheFirstCell();
         besideAtTheLastCells();
+        lanesDoNotMeet();
         changesWithoutSpeed();
         wantsNothingMore();
+        goneWithAWish();
         due.end();
     }
 
@@ -344,6 +346,39 @@ public final class RoadTest {
         due.is("when it is gone, its cell is free", y.ofCar(0, 0), 1);
     }
 
+    /** The cell behind the cell 0 of a lane, and the one ahead of the cell 39, are none of the other lane. */
+    private static void lanesDoNotMeet() {
+        for (int lane = 0; lane < 2; lane++) {
+            LoopListeners x = new LoopListeners();
+            standing(x, lane, 1, 39);
+            x.come(lane, 4, 1, 1);
+            x.want(1);
+            x.ticks(1);
+            due.is("changes at the cell 0", x.ofCar(1, 0), 1 - lane);
+            due.is("the car at the cell 39 is there still", x.carAt(lane, 39), 0);
+            x.speed(1, 0);
+            x.want(1);
+            x.want(0);
+            x.ticks(1);
+            due.is("back again", x.ofCar(1, 0), lane);
+            due.is("the one at the cell 39 changes, too", x.ofCar(0, 0), 1 - lane);
+            x.speed(0, 4);
+            x.ticks(1);
+            due.is("it moves on, though there are cars at the cells 0", x.ofCar(0, 5), 1);
+            due.is("the car at the cell 0 is there still", x.carAt(lane, 0), 1);
+            LoopListeners y = new LoopListeners();
+            standing(y, lane, 4, 41);
+            y.come(lane, 1, 1, 1);
+            y.come(1 - lane, 1, 1, 1);
+            y.speed(1, 0);
+            y.speed(2, 0);
+            y.want(0);
+            y.ticks(1);
+            due.is("changes beyond 39, though there are cars at the cells 0", y.ofCar(0, 0), 1 - lane);
+            due.is("who are there still", y.carAt(lane, 0) * 10 + y.carAt(1 - lane, 0), 12);
+        }
+    }
+
     /** A car of speed 0 changes its lane, too. */
     private static void changesWithoutSpeed() {
         LoopListeners x = new LoopListeners();
@@ -367,5 +402,25 @@ public final class RoadTest {
         due.is("wants no more", x.want(0), 0);
         x.ticks(2);
         due.is("it moves on in its lane", x.ofCar(0, 0) * 100 + x.ofCar(0, 1), 8);
+    }
+
+    /** "then it is gone": also if it wants still; it changes nothing any more, whatever is free beside it. */
+    private static void goneWithAWish() {
+        LoopListeners x = new LoopListeners();
+        x.come(0, 1, 4, 1);
+        x.come(1, 1, 4, 1);
+        x.want(0);
+        for (int tick = 0; tick < 10; tick++) {
+            due.is("it wants, but the one beside it has not moved on yet", x.ofCar(0, 0) * 10 + x.ofCar(0, 6), 1);
+            x.ticks(1);
+        }
+        due.is("gone", x.ofCar(0, 5), 1);
+        x.ticks(10);
+        int[] numbers = {0, 40, 1, 4, 1, 1, 1, 0, 0, 0};
+        for (int what = 0; what < 10; what++) {
+            due.is("ofCar(0, " + what + ") as it was last", x.ofCar(0, what), numbers[what]);
+        }
+        due.is("its wish can't be taken back", x.want(0), LoopListeners.NOT_POSSIBLE);
+        due.is("it wants still", x.ofCar(0, 6), 1);
     }
 }

@@ -1,6 +1,6 @@
 /** Roads on which calls are tried out. */
 enum Roads {
-    NEW, BUSY, FULL, FAULTY;
+    NEW, BUSY, FULL, CROWDED, FAULTY;
 
     /** A road as it is named, made anew. */
     LoopListeners made() {
@@ -8,6 +8,7 @@ enum Roads {
         switch (this) {
             case BUSY: makeBusy(x); break;
             case FULL: makeFull(x); break;
+            case CROWDED: makeCrowded(x); break;
             case FAULTY: makeFaulty(x); break;
             default:
         }
@@ -41,6 +42,22 @@ enum Roads {
             x.save(times % 2);
         }
         Texts.put(x, "t1;t1;t1;t1;t1;t1;t1;t1;t1;t1;t1;t1;t1;t1;t1;t1;t1;t1;t1;w39");
+    }
+
+    /** Forty cars on the road, of all speeds, of which some want, over and beside three loops; six changes. */
+    private static void makeCrowded(LoopListeners x) {
+        for (int times = 0; times < 5; times++) {
+            Texts.put(x, "c0119;c1112;t1;c0113;c1111;t1;c0117;c1118;t1;c0112;c1116;t1");
+            x.carryOut();
+        }
+        x.loop(0, 37, 3, 30, 20);
+        x.loop(1, 21, 2, 36, 9);
+        x.loop(0, 0, 1, 8, 8);
+        for (int car = 0; car < 40; car += 3) {
+            x.speed(car, car % 5);
+            x.want((car * 7 + 2) % 40);
+        }
+        Texts.put(x, "t9");
     }
 
     private static void makeFaulty(LoopListeners x) {

@@ -70,7 +70,6 @@ public final class WhatThereIsTest {
         x.ticks(1);
         numbersOfCar(x, 1, 0, 35, 4, 4, 2, 0, 0, 1, 0, 0);
         x.ticks(1);
-        // in the last cells beside it a car stands, so that it is gone while it still wants
         x.come(1, 1, 4, 9);
         x.ticks(1);
         numbersOfCar(x, 1, 0, 43, 4, 4, 2, 1, 0, 1, 0, 0);
