@@ -19,6 +19,9 @@ public final class LoopListeners {
     /** A difference is answered with this added, so that it can't be taken for an error code. */
     private static final int MIDDLE = 1000;
 
+    /** More than all errors together can be, so that the first one that is tried out is less. */
+    private static final int ABOVE_ALL_ERRORS = 1000000;
+
     private final Road now = new Road();
     private final Road trial = new Road();
     private final Loop trialLoop = new Loop();
@@ -173,7 +176,7 @@ public final class LoopListeners {
         }
         int times = hearTrial(loop, tried, ticks);
         int best = asked.lower;
-        int least = Integer.MAX_VALUE;
+        int least = ABOVE_ALL_ERRORS;
         for (int upper = asked.lower; upper <= MOST_BOUND; upper++) {
             int amount = Math.abs(countedWith(asked, upper, times) - tried.passings);
             if (amount < least) {
@@ -215,7 +218,7 @@ public final class LoopListeners {
             return BAD_VALUE;
         }
         int best = 1;
-        int least = Integer.MAX_VALUE;
+        int least = ABOVE_ALL_ERRORS;
         for (int turn = 1; turn <= MOST_TURN; turn++) {
             trial.become(now);
             trial.turn = turn;

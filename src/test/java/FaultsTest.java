@@ -258,10 +258,11 @@ public final class FaultsTest {
         due.is("wants", y.ofCar(39, 6), 1);
     }
 
-    /** "t": so many ticks(): 0 are refused. */
+    /** "A number is 0 to 99", but "ticks: 1 to 100": "t0" has no fault, and is refused when it is carried out. */
     private static void ticksOfNumbers() {
         for (int number = 0; number <= 99; number++) {
             LoopListeners x = with("t" + number);
+            due.is("fault of t" + number, x.fault(), LoopListeners.NONE);
             due.is("t" + number, x.carryOut(), number == 0 ? 0 : 1);
             due.is("ticks by t" + number, x.count(0), number);
         }

@@ -4,6 +4,7 @@ import com.sun.source.tree.ClassTree;
 import com.sun.source.tree.CompilationUnitTree;
 import com.sun.source.tree.LambdaExpressionTree;
 import com.sun.source.tree.MemberReferenceTree;
+import com.sun.source.tree.MemberSelectTree;
 import com.sun.source.tree.MethodInvocationTree;
 import com.sun.source.tree.MethodTree;
 import com.sun.source.tree.NewArrayTree;
@@ -26,6 +27,7 @@ import java.util.List;
 import java.util.Map;
 import java.util.Set;
 import javax.lang.model.element.Element;
+import javax.lang.model.element.ElementKind;
 import javax.lang.model.element.ExecutableElement;
 import javax.lang.model.element.Modifier;
 import javax.lang.model.type.TypeKind;
@@ -161,6 +163,18 @@ public final class LanguageTest extends TreePathScanner<Void, Void> {
             is("rule 4: " + called.getEnclosingElement() + "." + called, listed);
         }
         return super.visitMethodInvocation(tree, none);
+    }
+
+    /** "The library: only what stands here": of Integer, Long and Math these are functions alone, and none of their constants. */
+    @Override
+    public Void visitMemberSelect(MemberSelectTree tree, Void none) {
+        Element named = trees.getElement(getCurrentPath());
+        var of = trees.getTypeMirror(new TreePath(getCurrentPath(), tree.getExpression()));
+        boolean isLength = of != null && of.getKind() == TypeKind.ARRAY && tree.getIdentifier().contentEquals("length");
+        if (named != null && named.getKind() == ElementKind.FIELD && !isLength) {
+            is("rule 4: the field " + tree, isOwn(named));
+        }
+        return super.visitMemberSelect(tree, none);
     }
 
     @Override

@@ -404,7 +404,10 @@ public final class RoadTest {
         due.is("it moves on in its lane", x.ofCar(0, 0) * 100 + x.ofCar(0, 1), 8);
     }
 
-    /** "then it is gone": also if it wants still; it changes nothing any more, whatever is free beside it. */
+    /**
+     * "then it is gone": also if it wants still; it changes nothing any more, whatever is free beside it. Its wish is
+     * "as they were last, if it is gone".
+     */
     private static void goneWithAWish() {
         LoopListeners x = new LoopListeners();
         x.come(0, 1, 4, 1);

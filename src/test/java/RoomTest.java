@@ -3,6 +3,7 @@ import java.lang.management.ManagementFactory;
 /** No call makes objects or rows: what a run of calls needs was made by the constructor. */
 public final class RoomTest {
     private static final long NOT_WORTH_COUNTING = 16 * 1024, ONE_OBJECT = 128 * 1024;
+    private static final int CALLS = 482;
     private static final Due due = new Due();
 
     public static void main(String[] args) {
@@ -15,11 +16,11 @@ public final class RoomTest {
         run(x);
         long then = threads.getCurrentThreadAllocatedBytes();
         due.is("bytes of a new object are few, of " + (made - start), made - start < ONE_OBJECT ? 1 : 0, 1);
-        due.is("bytes of 512 calls are as good as none, of " + (then - made), then - made < NOT_WORTH_COUNTING ? 1 : 0, 1);
+        due.is("bytes of " + CALLS + " calls are as good as none, of " + (then - made), then - made < NOT_WORTH_COUNTING ? 1 : 0, 1);
         due.end();
     }
 
-    /** 512 calls, each method among them, with many cars that stand and with all loops. */
+    /** So many calls, each method among them, with many cars that stand and with all loops. */
     private static void run(LoopListeners x) {
         for (int loop = 0; loop < 6; loop++) {
             x.loop(loop % 2, 6 * loop, 3, 30, 10);
